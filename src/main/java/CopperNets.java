@@ -462,7 +462,10 @@ public final class CopperNets {
         }
 
         private static long gap(long startA, long endA, long startB, long endB) {
-            return Math.max(0L, Math.max(startB - endA, startA - endB));
+            if (startB > endA) {
+                return startB - endA;
+            }
+            return startA > endB ? startA - endB : 0;
         }
     }
 

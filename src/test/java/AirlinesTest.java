@@ -9,6 +9,7 @@ public final class AirlinesTest {
         farthest();
         changes();
         allPieces();
+        everyCallLooksAnew();
         wrongInputs();
         check.end();
     }
@@ -122,8 +123,23 @@ public final class AirlinesTest {
         airlinesAre("sixty", x, 6, due);
     }
 
+    private static void everyCallLooksAnew() {
+        CopperNets x = padsOfNet(4, 0, 0, 10, 0, 30, 0);
+        check.due("9: open with no call before it", open(x, 4, 0, 2), 100);
+        x.drop(1);
+        check.due("9: open after a drop", open(x, 4, 0, 2), 900);
+        CopperNets y = padsOfNet(4, 0, 0, 10, 0, 30, 0);
+        check.due("13: line with no call before it", y.line(4, 0, 1), 1);
+        y.drop(1);
+        check.due("13: line after a drop", y.line(4, 0, 1), 2);
+        check.due("13: line of another net", y.line(5, 0, 1), -1);
+    }
+
     private static void wrongInputs() {
         CopperNets x = padsOfNet(0, 0, 0, 10, 0);
+        // Pads of pins without a net are of no net that could be asked for.
+        x.pad(30, 0, 500, 0, 1);
+        x.pad(31, 0, 600, 0, 1);
         for (int net : new int[] {-1, 20, Integer.MIN_VALUE, Integer.MAX_VALUE}) {
             check.index("8: net " + net, () -> x.opens(net));
             check.index("9: net " + net, () -> x.open(net, 0, 0));

@@ -139,5 +139,30 @@ public final class PiecesTest {
             // A dropped piece makes no room: its number is not used again.
             x.drop(7);
         }
+        for (int pin = 0; pin < 40; pin++) {
+            x.plans(pin, pin % 20);
+        }
+        everyQuestion("no pads", x, 0, 59, 40);
+        CopperNets pads = new CopperNets(8);
+        for (int i = 0; i < 60; i++) {
+            pads.plans(i % 40, 0);
+            pads.pad(i % 40, i % 8, 10 * i, 0, 1);
+        }
+        everyQuestion("pads of one net", pads, 59, 0, 0);
+    }
+
+    /** With 60 pieces every row is full: no question may look past its end. */
+    private static void everyQuestion(String of, CopperNets x, int opens, int unnamed, int unreached) {
+        check.due(of + ": 8", x.opens(0), opens);
+        check.due(of + ": 13", x.line(0, opens, 0), -1);
+        check.index(of + ": 9", () -> x.open(0, opens, 0));
+        check.due(of + ": 10", x.shorts(), 0);
+        check.index(of + ": 11", () -> x.short2(0, 0));
+        check.due(of + ": 12", x.unnamed(unnamed), -1);
+        check.due(of + ": 12, the last", x.unnamed(unnamed - 1) == -1, unnamed == 0);
+        check.due(of + ": 15", x.same(), true);
+        check.due(of + ": 16", x.unreached(unreached), -1);
+        check.due(of + ": 16, the last", x.unreached(unreached - 1), unreached - 1);
+        check.due(of + ": 17", x.exact(), false);
     }
 }

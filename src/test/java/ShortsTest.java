@@ -10,6 +10,7 @@ public final class ShortsTest {
         notTheNewestJoin();
         severalShorts();
         changes();
+        everyCallLooksAnew();
         wrongInputs();
         check.end();
     }
@@ -138,6 +139,23 @@ public final class ShortsTest {
         shortsAre("parted", x);
         x.via(0, 1, 1, 0, 2);
         shortsAre("joined again", x, row(0, 3, 19, 2, 3));
+    }
+
+    private static void everyCallLooksAnew() {
+        CopperNets x = planned();
+        x.pad(5, 0, 0, 0, 5);
+        x.pad(6, 0, 0, 0, 5);
+        x.pad(7, 0, 0, 0, 5);
+        check.due("11: short2 with no call before it", short2(x, 0, 2), 6);
+        x.plans(5, -1);
+        check.due("11: its lowest net after the plan", short2(x, 0, 1), 6);
+        // 2 is joined with 0 first, and 1, of net 6, is in one with 0 by then.
+        check.due("11: its lower piece after the plan", short2(x, 0, 3), 0);
+        check.due("11: its other piece after the plan", short2(x, 0, 4), 2);
+        check.due("15: same, whatever was looked at before", x.same(), true);
+        x.drop(1);
+        check.due("15: same", x.same(), true);
+        check.due("11: gone with the piece", short2(x, 0, 0), "throws.IndexOutOfBoundsException");
     }
 
     private static void wrongInputs() {
