@@ -1,9 +1,12 @@
-import java.util.List;
 import java.util.Random;
-import java.util.TreeSet;
 
-/** All promises at once: long runs of calls, every answer held against a plain model of the document. */
+/**
+ * All promises at once: runs of 512 calls, every answer held against a plain model of the
+ * document. Some numbers are wrong, so that refused calls stand among the others.
+ */
 public final class ModelRuns {
+    private static final int RUNS = 1000;
+    private static final int CALLS = 512;
     private static final Check check = new Check();
 
     private final Random random;
@@ -13,33 +16,39 @@ public final class ModelRuns {
     private final int nets;
     private final long spread;
     private final long largest;
+    private final int changes;
+    private final int drops;
     private final CopperNets x;
-    private final PlainModel model = new PlainModel();
+    private final PlainModel model;
 
     private ModelRuns(int seed) {
         this.seed = seed;
         random = new Random(seed);
-        layers = 1 + random.nextInt(8);
+        int told = pick(-1, 0, 1, 2, 3, 5, 8, 9);
+        layers = Math.max(1, Math.min(8, told));
         pins = pick(1, 4, 12, 40);
         nets = pick(1, 2, 5, 20);
         spread = pick(5, 12, 40, 300, 100_000);
         largest = pick(1, 3, 8, 100_000);
-        x = new CopperNets(layers);
+        changes = pick(10, 30, 60);
+        drops = pick(0, 5, 20, 40);
+        x = new CopperNets(told);
+        model = new PlainModel(told);
     }
 
     public static void main(String[] args) {
-        for (int seed = 0; seed < 400 && check.wrong() == 0; seed++) {
+        for (int seed = 0; seed < RUNS && check.wrong() == 0; seed++) {
             new ModelRuns(seed).go();
         }
         check.end();
     }
 
     private void go() {
-        int changes = 20 + random.nextInt(130);
-        for (int step = 0; step < changes; step++) {
-            change();
-            if (random.nextInt(4) == 0 || step == changes - 1) {
-                compare();
+        for (int call = 0; call < CALLS; call++) {
+            if (random.nextInt(100) < changes) {
+                change();
+            } else {
+                ask();
             }
         }
     }
@@ -48,99 +57,128 @@ public final class ModelRuns {
         return from[random.nextInt(from.length)];
     }
 
+    private boolean goesWrong() {
+        return random.nextInt(60) == 0;
+    }
+
+    private int below(int size) {
+        return goesWrong() ? pick(-1, size, Integer.MIN_VALUE, Integer.MAX_VALUE) : random.nextInt(Math.max(1, size));
+    }
+
     private long place() {
+        if (goesWrong()) {
+            return random.nextBoolean() ? pick(-100_001, 100_001) : pick(-100_000, 100_000);
+        }
         return random.nextLong(-spread, spread + 1);
     }
 
     private long size() {
+        if (goesWrong()) {
+            return pick(0, -1, 100_001, 100_000);
+        }
         return random.nextLong(1, Math.min(largest, spread) + 1);
     }
 
-    private void due(String call, Object got, Object want) {
-        check.due("seed " + seed + ": " + call, got, want);
+    private void due(String call, Check.Call got, Check.Call want) {
+        check.due("seed " + seed + ": " + call, Check.outcome(got), Check.outcome(want));
     }
 
     private void change() {
-        int kind = random.nextInt(10);
-        if (kind < 2) {
-            addShape();
-        } else if (kind < 3) {
-            addVia();
-        } else if (kind < 6) {
-            addPad();
-        } else if (kind < 8) {
-            int pin = random.nextInt(pins);
-            int net = random.nextInt(nets + 1) - 1;
-            due("plans", x.plans(pin, net), model.plan[pin] != net);
-            model.plan[pin] = net;
-        } else if (!model.pieces.isEmpty()) {
-            int piece = random.nextInt(model.pieces.size());
-            due("drop", x.drop(piece), model.there.set(piece, false));
+        if (random.nextInt(100) < drops) {
+            int piece = below(model.count());
+            due("drop(" + piece + ")", () -> x.drop(piece), () -> model.drop(piece));
+            return;
         }
+        switch (random.nextInt(8)) {
+            case 0, 1 -> addShape();
+            case 2 -> addVia();
+            case 3, 4, 5 -> addPad();
+            default -> plan();
+        }
+    }
+
+    private void plan() {
+        int pin = goesWrong() ? pick(-1, 39, 40) : random.nextInt(pins);
+        int net = goesWrong() ? pick(-2, 19, 20) : random.nextInt(nets + 1) - 1;
+        due("plans(" + pin + ", " + net + ")", () -> x.plans(pin, net), () -> model.plans(pin, net));
     }
 
     private void addShape() {
-        int layer = random.nextInt(layers);
+        int layer = below(layers);
         long px = place(), py = place(), w = size(), h = size();
-        int want = model.add(new PlainModel.Piece(false, layer, layer, px, py, w, h, -1));
-        due("shape", x.shape(layer, px, py, w, h), want);
+        due("shape", () -> x.shape(layer, px, py, w, h), () -> model.shape(layer, px, py, w, h));
     }
 
     private void addVia() {
-        int from = random.nextInt(layers);
-        int to = from + random.nextInt(layers - from);
+        int one = below(layers);
+        int two = below(layers);
+        int from = goesWrong() ? Math.max(one, two) : Math.min(one, two);
+        int to = one + two - from;
         long px = place(), py = place(), r = size();
-        int want = model.add(new PlainModel.Piece(true, from, to, px, py, r, r, -1));
-        due("via", x.via(from, to, px, py, r), want);
+        due("via", () -> x.via(from, to, px, py, r), () -> model.via(from, to, px, py, r));
     }
 
     private void addPad() {
-        int pin = random.nextInt(pins);
-        int layer = random.nextInt(layers);
+        int pin = goesWrong() ? pick(-1, 39, 40) : random.nextInt(pins);
+        int layer = below(layers);
         long px = place(), py = place(), r = size();
-        int want = model.add(new PlainModel.Piece(true, layer, layer, px, py, r, r, pin));
-        due("pad", x.pad(pin, layer, px, py, r), want);
+        due("pad", () -> x.pad(pin, layer, px, py, r), () -> model.pad(pin, layer, px, py, r));
     }
 
-    private void compare() {
-        List<TreeSet<Integer>> copper = model.copperNets();
-        due("run", x.run(), copper.size());
-        due("same", x.same(), true);
-        due("exact", x.exact(), model.exact());
-        for (int i = 0; i < model.pieces.size(); i++) {
-            due("netOf", x.netOf(i), model.netOf(i));
-        }
-        for (int net = 0; net < 20; net++) {
-            compareAirlines(net);
-        }
-        compareShorts();
-        List<Integer> unnamed = model.unnamed();
-        List<Integer> unreached = model.unreached();
-        for (int k = -1; k < 62; k++) {
-            due("unnamed(" + k + ")", x.unnamed(k), k >= 0 && k < unnamed.size() ? unnamed.get(k) : -1);
-            due("unreached(" + k + ")", x.unreached(k), k >= 0 && k < unreached.size() ? unreached.get(k) : -1);
+    private void ask() {
+        switch (random.nextInt(11)) {
+            case 0 -> due("run()", x::run, model::run);
+            case 1 -> askNetOf();
+            case 2, 3 -> askAirline();
+            case 4 -> due("shorts()", x::shorts, model::shorts);
+            case 5, 6 -> askShort();
+            case 7 -> due("same()", x::same, model::same);
+            case 8 -> askUnnamed();
+            case 9 -> askUnreached();
+            default -> due("exact()", x::exact, model::exact);
         }
     }
 
-    private void compareAirlines(int net) {
-        List<PlainModel.Line> lines = model.airlines(net);
-        due("opens", x.opens(net), lines.size());
-        for (int k = 0; k < Math.min(lines.size(), x.opens(net)); k++) {
-            due("open(" + k + ", 0)", x.open(net, k, 0), lines.get(k).lower());
-            due("open(" + k + ", 1)", x.open(net, k, 1), lines.get(k).other());
-            due("open(" + k + ", 2)", x.open(net, k, 2), lines.get(k).square());
-            due("line(" + k + ", 0)", x.line(net, k, 0), lines.get(k).lower());
-            due("line(" + k + ", 1)", x.line(net, k, 1), lines.get(k).other());
+    private void askNetOf() {
+        int piece = below(model.count());
+        due("netOf(" + piece + ")", () -> x.netOf(piece), () -> model.netOf(piece));
+    }
+
+    private void askAirline() {
+        int net = netWithAirlines();
+        int k = below(net < 0 || net > 19 ? 1 : model.opens(net));
+        int what = below(3);
+        int which = below(2);
+        String of = "(" + net + ", " + k + ", ";
+        switch (random.nextInt(4)) {
+            case 0 -> due("opens(" + net + ")", () -> x.opens(net), () -> model.opens(net));
+            case 1 -> due("line" + of + which + ")", () -> x.line(net, k, which), () -> model.line(net, k, which));
+            default -> due("open" + of + what + ")", () -> x.open(net, k, what), () -> model.open(net, k, what));
         }
     }
 
-    private void compareShorts() {
-        List<long[]> shorts = model.shorts();
-        due("shorts", x.shorts(), shorts.size());
-        for (int k = 0; k < Math.min(shorts.size(), x.shorts()); k++) {
-            for (int what = 0; what < 5; what++) {
-                due("short2(" + k + ", " + what + ")", x.short2(k, what), shorts.get(k)[what]);
-            }
+    /** A few tries to find one, as most answers for the others are none. */
+    private int netWithAirlines() {
+        int net = random.nextInt(nets);
+        for (int tries = 0; tries < 3 && model.opens(net) == 0; tries++) {
+            net = random.nextInt(nets);
         }
+        return goesWrong() ? below(20) : net;
+    }
+
+    private void askShort() {
+        int k = below(model.shorts());
+        int what = below(5);
+        due("short2(" + k + ", " + what + ")", () -> x.short2(k, what), () -> model.short2(k, what));
+    }
+
+    private void askUnnamed() {
+        int k = random.nextInt(4) == 0 ? below(60) : random.nextInt(8);
+        due("unnamed(" + k + ")", () -> x.unnamed(k), () -> model.unnamed(k));
+    }
+
+    private void askUnreached() {
+        int k = random.nextInt(4) == 0 ? below(40) : random.nextInt(4);
+        due("unreached(" + k + ")", () -> x.unreached(k), () -> model.unreached(k));
     }
 }

@@ -5,23 +5,156 @@ import java.util.List;
 import java.util.TreeSet;
 
 /**
- * The document's terms written down once more, word by word and with no care for speed: all is
- * worked out anew at every question. Arguments are taken to be good.
+ * The document's face and terms written down once more, word by word and with no care for speed:
+ * all is worked out anew at every question.
  */
 final class PlainModel {
-    record Piece(boolean disc, int from, int to, long x, long y, long w, long h, int pin) { }
+    private record Piece(boolean disc, int from, int to, long x, long y, long w, long h, int pin) { }
 
-    record Line(int lower, int other, long square) { }
+    private record Line(int lower, int other, long square) { }
 
-    final List<Piece> pieces = new ArrayList<>();
-    final List<Boolean> there = new ArrayList<>();
-    final int[] plan = new int[40];
+    private final int layers;
+    private final List<Piece> pieces = new ArrayList<>();
+    private final List<Boolean> there = new ArrayList<>();
+    private final int[] plan = new int[40];
 
-    PlainModel() {
+    PlainModel(int layers) {
+        this.layers = layers < 1 ? 1 : layers > 8 ? 8 : layers;
         Arrays.fill(plan, -1);
     }
 
-    int add(Piece piece) {
+    int shape(int layer, long x, long y, long w, long h) {
+        index(layer, layers);
+        argument(x, -100_000, 100_000);
+        argument(y, -100_000, 100_000);
+        argument(w, 1, 100_000);
+        argument(h, 1, 100_000);
+        return add(new Piece(false, layer, layer, x, y, w, h, -1));
+    }
+
+    int via(int from, int to, long x, long y, long r) {
+        index(from, layers);
+        index(to, layers);
+        argument(from, 0, to);
+        return addDisc(from, to, x, y, r, -1);
+    }
+
+    int pad(int pin, int layer, long x, long y, long r) {
+        index(pin, 40);
+        index(layer, layers);
+        return addDisc(layer, layer, x, y, r, pin);
+    }
+
+    boolean plans(int pin, int net) {
+        index(pin, 40);
+        argument(net, -1, 19);
+        boolean another = plan[pin] != net;
+        plan[pin] = net;
+        return another;
+    }
+
+    int run() {
+        return copperNets().size();
+    }
+
+    int netOf(int piece) {
+        index(piece, pieces.size());
+        List<TreeSet<Integer>> nets = copperNets();
+        for (int n = 0; n < nets.size(); n++) {
+            if (nets.get(n).contains(piece)) {
+                return n;
+            }
+        }
+        return -1;
+    }
+
+    int opens(int net) {
+        index(net, 20);
+        return airlines(net).size();
+    }
+
+    long open(int net, int k, int what) {
+        index(net, 20);
+        index(what, 3);
+        List<Line> lines = airlines(net);
+        index(k, lines.size());
+        return what == 0 ? lines.get(k).lower : what == 1 ? lines.get(k).other : lines.get(k).square;
+    }
+
+    int shorts() {
+        return shorted().size();
+    }
+
+    long short2(int k, int what) {
+        List<long[]> shorts = shorted();
+        index(k, shorts.size());
+        index(what, 5);
+        return shorts.get(k)[what];
+    }
+
+    int unnamed(int k) {
+        return orNone(withoutName(), k);
+    }
+
+    int line(int net, int k, int which) {
+        index(net, 20);
+        index(which, 2);
+        List<Line> lines = airlines(net);
+        if (k < 0 || k >= lines.size()) {
+            return -1;
+        }
+        return which == 0 ? lines.get(k).lower : lines.get(k).other;
+    }
+
+    boolean drop(int piece) {
+        index(piece, pieces.size());
+        return there.set(piece, false);
+    }
+
+    boolean same() {
+        return true;
+    }
+
+    int unreached(int k) {
+        return orNone(notReached(), k);
+    }
+
+    boolean exact() {
+        boolean open = false;
+        for (int net = 0; net < 20; net++) {
+            open |= !airlines(net).isEmpty();
+        }
+        return !open && shorted().isEmpty() && notReached().isEmpty();
+    }
+
+    int count() {
+        return pieces.size();
+    }
+
+    private static void index(int number, int size) {
+        if (number < 0 || number >= size) {
+            throw new IndexOutOfBoundsException();
+        }
+    }
+
+    private static void argument(long number, long least, long most) {
+        if (number < least || number > most) {
+            throw new IllegalArgumentException();
+        }
+    }
+
+    private static int orNone(List<Integer> list, int k) {
+        return k >= 0 && k < list.size() ? list.get(k) : -1;
+    }
+
+    private int addDisc(int from, int to, long x, long y, long r, int pin) {
+        argument(x, -100_000, 100_000);
+        argument(y, -100_000, 100_000);
+        argument(r, 1, 100_000);
+        return add(new Piece(true, from, to, x, y, r, r, pin));
+    }
+
+    private int add(Piece piece) {
         if (pieces.size() == 60) {
             return -1;
         }
@@ -30,7 +163,7 @@ final class PlainModel {
         return pieces.size() - 1;
     }
 
-    boolean touch(int i, int j) {
+    private boolean touch(int i, int j) {
         Piece a = pieces.get(i);
         Piece b = pieces.get(j);
         boolean layer = false;
@@ -56,7 +189,7 @@ final class PlainModel {
     }
 
     /** The copper nets, each as its pieces, by their lowest ones. */
-    List<TreeSet<Integer>> copperNets() {
+    private List<TreeSet<Integer>> copperNets() {
         List<TreeSet<Integer>> nets = new ArrayList<>();
         TreeSet<Integer> left = new TreeSet<>();
         for (int i = 0; i < pieces.size(); i++) {
@@ -82,22 +215,12 @@ final class PlainModel {
         return nets;
     }
 
-    int netOf(int piece) {
-        List<TreeSet<Integer>> nets = copperNets();
-        for (int n = 0; n < nets.size(); n++) {
-            if (nets.get(n).contains(piece)) {
-                return n;
-            }
-        }
-        return -1;
-    }
-
-    int nameOf(int piece) {
+    private int nameOf(int piece) {
         int pin = pieces.get(piece).pin;
         return pin < 0 ? -1 : plan[pin];
     }
 
-    TreeSet<Integer> names(Iterable<Integer> some) {
+    private TreeSet<Integer> names(Iterable<Integer> some) {
         TreeSet<Integer> names = new TreeSet<>();
         for (int piece : some) {
             if (nameOf(piece) >= 0) {
@@ -107,7 +230,7 @@ final class PlainModel {
         return names;
     }
 
-    List<Line> airlines(int net) {
+    private List<Line> airlines(int net) {
         List<TreeSet<Integer>> joined = copperNets();
         List<Line> pairs = new ArrayList<>();
         for (int i = 0; i < pieces.size(); i++) {
@@ -150,7 +273,7 @@ final class PlainModel {
     }
 
     /** Each short as its number, its lowest net, its second one, and the two pieces. */
-    List<long[]> shorts() {
+    private List<long[]> shorted() {
         List<long[]> shorts = new ArrayList<>();
         List<TreeSet<Integer>> nets = copperNets();
         for (int n = 0; n < nets.size(); n++) {
@@ -179,7 +302,7 @@ final class PlainModel {
         throw new IllegalStateException();
     }
 
-    List<Integer> unnamed() {
+    private List<Integer> withoutName() {
         List<Integer> found = new ArrayList<>();
         List<TreeSet<Integer>> nets = copperNets();
         for (int i = 0; i < pieces.size(); i++) {
@@ -190,7 +313,7 @@ final class PlainModel {
         return found;
     }
 
-    List<Integer> unreached() {
+    private List<Integer> notReached() {
         List<Integer> found = new ArrayList<>();
         for (int pin = 0; pin < 40; pin++) {
             boolean reached = plan[pin] == -1;
@@ -202,13 +325,5 @@ final class PlainModel {
             }
         }
         return found;
-    }
-
-    boolean exact() {
-        boolean open = false;
-        for (int net = 0; net < 20; net++) {
-            open |= !airlines(net).isEmpty();
-        }
-        return !open && shorts().isEmpty() && unreached().isEmpty();
     }
 }
